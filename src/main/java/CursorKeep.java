@@ -196,10 +196,11 @@ public final class CursorKeep {
 
     public int write() {
         for (int i = 0; i < queue.size(); i++) {
-            if (canBeWritten(i)) {
-                Save written = queue.remove(i);
-                written.text.keepAsSaved();
-                return written.number;
+            Save save = queue.get(i);
+            if (save.isReady() && isFirstForItsText(save)) {
+                queue.remove(i);
+                save.text.keepAsSaved();
+                return save.number;
             }
         }
         return NONE;
@@ -258,17 +259,13 @@ public final class CursorKeep {
         return found;
     }
 
-    private boolean canBeWritten(int spot) {
-        Save save = queue.get(spot);
-        if (!save.isReady()) {
-            return false;
-        }
-        for (int i = 0; i < spot; i++) {
+    private boolean isFirstForItsText(Save save) {
+        for (int i = 0; i < queue.size(); i++) {
             if (queue.get(i).text == save.text) {
-                return false;
+                return queue.get(i) == save;
             }
         }
-        return true;
+        return false;
     }
 
     private static char shownSign(Row row, int place) {

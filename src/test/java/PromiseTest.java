@@ -157,10 +157,27 @@ public final class PromiseTest {
         for (int bad : new int[] {-1, 3, FAR, LOW}) {
             outside(k, () -> k.erase(0, bad));
         }
+        cursorsOfAllHandsMove();
         CursorKeep gone = written("ab");
         gone.moveTo(1, 0, 1);
         gone.erase(1, 0);
         stateless(gone, () -> gone.erase(1, 0));
+    }
+
+    private static void cursorsOfAllHandsMove() {
+        CursorKeep k = written("abc");
+        for (int hand = 0; hand < 5; hand++) {
+            k.moveTo(hand, 0, 1);
+        }
+        k.type(0, 1, 'x');
+        k.moveTo(0, 1, 0);
+        k.moveTo(1, 0, 2);
+        due("the eraser stays", k.erase(1, 0), 1);
+        for (int hand = 0; hand < 5; hand++) {
+            k.type(hand, 0, (char) ('0' + hand));
+        }
+        shows(k, 0, "a01234c");
+        due("cursors of other texts stay", k.place(0, 1), 0);
     }
 
     // ---- Promise 4
@@ -452,6 +469,7 @@ public final class PromiseTest {
         formats("a  b", CursorKeep.SPACES, 0, 1, "a b");
         formats("   ab    c  ", CursorKeep.SPACES, 0, 6, " ab c ");
         formats(" / / ", CursorKeep.SPACES, 0, 0, " / / ");
+        formats(" ".repeat(150), CursorKeep.SPACES, 0, 149, " ");
     }
 
     private static void endsFormat() {
@@ -460,12 +478,14 @@ public final class PromiseTest {
         formats("a  b  / c /  /d ", CursorKeep.ENDS, 0, 6, "a  b/ c//d");
         formats(" a", CursorKeep.ENDS, 0, 0, " a");
         formats("a /", CursorKeep.ENDS, 0, 1, "a/");
+        formats(" ".repeat(150), CursorKeep.ENDS, 0, 150, "");
     }
 
     private static void capitalsFormat() {
         formats("", CursorKeep.CAPITALS, 0, 0, "");
         formats("abc abc/z/A/ a/0a//q", CursorKeep.CAPITALS, 0, 3, "Abc abc/Z/A/ a/0a//Q");
         formats("/a", CursorKeep.CAPITALS, 0, 1, "/A");
+        formats("a/".repeat(75), CursorKeep.CAPITALS, 0, 75, "A/".repeat(75));
     }
 
     private static void wrapFormat() {
@@ -474,6 +494,9 @@ public final class PromiseTest {
         formats("ab de", CursorKeep.WRAP, 5, 0, "ab de");
         formats("abcde f", CursorKeep.WRAP, 5, 1, "abcde/f");
         formats("abcdef g", CursorKeep.WRAP, 5, 0, "abcdef g");
+        formats("a bc/defghi jk", CursorKeep.WRAP, 5, 0, "a bc/defghi jk");
+        formats("a bcde fghijklm n", CursorKeep.WRAP, 5, 2, "a/bcde/fghijklm n");
+        formats("a bcdefghijkl m", CursorKeep.WRAP, 5, 1, "a/bcdefghijkl m");
         formats("abcdef gh ijk/lm nopq", CursorKeep.WRAP, 5, 1, "abcdef gh ijk/lm/nopq");
         formats("a b c d e f g h", CursorKeep.WRAP, 5, 2, "a b c/d e f/g h");
         formats("      ", CursorKeep.WRAP, 5, 1, "     /");
@@ -481,6 +504,7 @@ public final class PromiseTest {
         formats(" abcde fghij", CursorKeep.WRAP, 5, 2, "/abcde/fghij");
         formats("ab cd/ef gh", CursorKeep.WRAP, 5, 0, "ab cd/ef gh");
         formats("one two three/go on now", CursorKeep.WRAP, 7, 2, "one two/three/go on/now");
+        formats(" ".repeat(150), CursorKeep.WRAP, 5, 25, "     /".repeat(25));
         String wide = "abcdefghi abcdefghi abcdefghi abcdefghi ";
         formats(wide, CursorKeep.WRAP, 40, 0, wide);
         formats(wide + "a", CursorKeep.WRAP, 40, 1, wide.substring(0, 39) + "/a");
@@ -512,6 +536,34 @@ public final class PromiseTest {
         m.redo(1);
         shows(m, 0, "a b ");
         formatsStayWhenHandsUndo();
+        formatsDoNotMixTheirLetters();
+    }
+
+    private static void formatsDoNotMixTheirLetters() {
+        CursorKeep m = written("  a");
+        m.ask(0, CursorKeep.SPACES, 0);
+        m.ask(0, CursorKeep.CAPITALS, 0);
+        m.ask(0, CursorKeep.WRAP, 5);
+        m.moveTo(1, 0, 3);
+        m.type(1, 0, '/');
+        m.type(1, 0, 'b');
+        m.ask(0, CursorKeep.CAPITALS, 0);
+        m.type(0, 1, 'a');
+        m.ask(1, CursorKeep.ENDS, 0);
+        due("each its own changes", m.drop(0) * 1000 + m.drop(1) * 100 + m.drop(3) * 10 + m.drop(4), 1010);
+        formatsForgetOtherFormats();
+    }
+
+    private static void formatsForgetOtherFormats() {
+        CursorKeep k = written("a  /b");
+        k.ask(0, CursorKeep.ENDS, 0);
+        k.ask(0, CursorKeep.CAPITALS, 0);
+        due("letters that go by the first", k.spared(0), 0);
+        k.moveTo(1, 0, 2);
+        k.erase(1, 0);
+        due("are neighbours by the second", k.spared(1), 1);
+        k.undo(1);
+        due("and as they were", k.come(1), 2);
     }
 
     private static void formatsStayWhenHandsUndo() {
@@ -535,6 +587,16 @@ public final class PromiseTest {
         due("a cursor stands at it", k.spared(0), 1);
         k.moveTo(4, 0, 1);
         due("the cursor went on", k.spared(0), 0);
+        for (int hand = 0; hand < 5; hand++) {
+            int before = k.moveTo(hand, 0, 2);
+            due("any hand's cursor", k.spared(0), 1);
+            k.moveTo(hand, 0, before);
+        }
+        k.type(1, 1, 'a');
+        k.type(1, 1, 'b');
+        k.type(1, 1, 'c');
+        k.moveTo(1, 1, 2);
+        due("a cursor in another text", k.spared(0), 0);
         k.moveTo(1, 0, 3);
         k.erase(1, 0);
         due("the letter is gone", k.spared(0), 1);
@@ -777,6 +839,12 @@ public final class PromiseTest {
         due("an empty text is saved with its version", k.savedVersion(2), 0);
         due("and no letters", k.savedLength(2), 0);
         outside(k, () -> k.savedLetter(2, 0));
+        CursorKeep full = written("ab".repeat(75));
+        full.save(0, 0, NONE);
+        full.write();
+        due("a full text is saved whole", full.savedLength(0), 150);
+        due("up to its last letter", full.savedLetter(0, 149), 'b');
+        outside(full, () -> full.savedLetter(0, 150));
     }
 
     // ---- what the tests share
@@ -852,6 +920,7 @@ public final class PromiseTest {
             call.run();
         } catch (RuntimeException e) {
             got = e.getClass();
+            same("the class throws it itself", e.getStackTrace()[0].getClassName(), "CursorKeep");
         }
         same("thrown", got, want);
         same("all after a refusal", seen(k), before);
