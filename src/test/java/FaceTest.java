@@ -29,9 +29,10 @@ public final class FaceTest {
     };
 
     private static final String[] RULED_OUT = {
-        "\\bcatch\\b", "\\bfinally\\b", "\\bsynchronized\\b", "\\bassert\\b", "->", "::", "\\bException\\b",
-        "\\bThrowable\\b", "Exact\\b", "\\bSystem\\.(?!arraycopy\\b)", "\\bThread\\b", "\\bRandom\\b", "\\bpackage\\b",
-        "\\bequals\\b", "\\bhashCode\\b", "\\btoString\\b", "\\binstanceof\\b", "import (?!java\\.util\\.(ArrayList|List);)",
+        "\\bfinally\\b", "\\bsynchronized\\b", "\\bassert\\b", "->", "::", "\\bException\\b", "\\bThrowable\\b", "Error\\b",
+        "\\bNullPointer", "\\bArrayIndex", "\\bStringIndex", "\\bClassCast", "\\bNegativeArray", "\\bArrayStore",
+        "Exact\\b", "\\bSystem\\.(?!arraycopy\\b)", "\\bThread\\b", "\\bRandom\\b", "\\bpackage\\b", "\\bhashCode\\b",
+        "import (?!java\\.util\\.(ArrayList|List|Arrays|Iterator|NoSuchElementException);)",
     };
 
     public static void main(String[] args) throws Exception {

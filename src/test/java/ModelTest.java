@@ -13,6 +13,7 @@ import java.util.Set;
 public final class ModelTest {
     private static final int RUNS = 4000;
     private static final int CALLS = 512;
+    private static final int LAST_LOOKS = 60;
     private static final String SIGNS = "abcxyzAZ09 /";
 
     /** An exception that is due, by a number. */
@@ -44,23 +45,27 @@ public final class ModelTest {
         final Model m = new Model();
         final StringBuilder told = new StringBuilder();
         final int wrongShare;
+        final int looking;
         final int typing;
         final int formatting;
+        final int saving;
         final int texts;
         final String signs;
 
         Run(int seed) {
             dice = new Random(seed);
             wrongShare = dice.nextInt(3) == 0 ? 12 : 60;
+            looking = dice.nextInt(40);
             typing = 10 + dice.nextInt(40);
-            formatting = 2 + dice.nextInt(20);
+            formatting = 2 + dice.nextInt(dice.nextInt(4) == 0 ? 90 : 20);
+            saving = dice.nextInt(4) == 0 ? 30 : 0;
             texts = 1 + dice.nextInt(3);
             signs = dice.nextBoolean() ? SIGNS : "aab    /";
         }
 
         String go(long[] answered) {
             for (int i = 0; i < CALLS; i++) {
-                int[] call = choose();
+                int[] call = i >= CALLS - LAST_LOOKS || any(100) < looking ? look() : choose();
                 long want = m.answer(call);
                 long got = answer(call);
                 told.append(Arrays.toString(call)).append(" = ").append(got).append('\n');
@@ -68,12 +73,6 @@ public final class ModelTest {
                     return told + "due is " + want;
                 }
                 answered[got == OUTSIDE ? 1 : got == ILLEGAL ? 2 : got == STATELESS ? 3 : 0]++;
-                if (i % 8 == 7 || i == CALLS - 1) {
-                    String fault = compareAll();
-                    if (fault != null) {
-                        return told + fault;
-                    }
-                }
             }
             return null;
         }
@@ -107,7 +106,7 @@ public final class ModelTest {
 
         int[] choose() {
             int text = text();
-            int at = any(typing + formatting + 50);
+            int at = any(typing + formatting + saving + 50);
             if (at < typing) {
                 return new int[] {0, hand(), text, wrongly() ? any(65536) : signs.charAt(any(signs.length()))};
             }
@@ -115,18 +114,38 @@ public final class ModelTest {
             if (at < formatting) {
                 return chooseFormat(text);
             }
-            switch (any(13)) {
+            at -= formatting;
+            if (at < saving) {
+                return new int[] {16, hand(), text, -1};
+            }
+            switch (any(10)) {
                 case 0: case 1: return new int[] {1, hand(), text};
                 case 2: case 3: return new int[] {2, hand(), text, spot(text)};
                 case 4: case 5: return new int[] {3, hand()};
                 case 6: return new int[] {4, hand()};
-                case 7: return new int[] {5, hand(), text};
-                case 8: return new int[] {15, hand(), text};
-                case 9: return new int[] {16, hand(), text, any(2) == 0 ? -1 : format()};
-                case 10: return new int[] {17};
-                case 11: return new int[] {8, text, spot(text)};
-                default: return new int[] {21, text, wrongly() ? -1 : any(40)};
+                case 7: return new int[] {15, hand(), text};
+                case 8: return new int[] {16, hand(), text, any(2) == 0 ? -1 : format()};
+                default: return new int[] {17};
             }
+        }
+
+        int[] look() {
+            int text = text();
+            switch (any(12)) {
+                case 0: return new int[] {5, hand(), text};
+                case 1: return new int[] {6, text};
+                case 2: case 3: return new int[] {7, text, spot(text)};
+                case 4: case 5: return new int[] {8, text, spot(text)};
+                case 6: return new int[] {9, text};
+                case 7: return any(2) == 0 ? new int[] {13, format()} : new int[] {18};
+                case 8: case 9: return new int[] {14, format()};
+                case 10: return new int[] {19 + any(2), text};
+                default: return new int[] {21, text, wrongly() ? -1 : savedSpot(text)};
+            }
+        }
+
+        int savedSpot(int text) {
+            return any(text >= 0 && text < 3 ? m.texts[text].saved.length() + 1 : 1);
         }
 
         int[] chooseFormat(int text) {
@@ -151,7 +170,10 @@ public final class ModelTest {
                     case 3: return k.undo(c[1]);
                     case 4: return k.redo(c[1]);
                     case 5: return k.place(c[1], c[2]);
+                    case 6: return k.length(c[1]);
+                    case 7: return k.letter(c[1], c[2]);
                     case 8: return k.letterAnew(c[1], c[2]);
+                    case 9: return k.version(c[1]);
                     case 10: return k.ask(c[1], c[2], c[3]);
                     case 11: return k.come(c[1]);
                     case 12: return k.drop(c[1]);
@@ -160,6 +182,9 @@ public final class ModelTest {
                     case 15: return k.lock(c[1], c[2]) ? 1 : 0;
                     case 16: return k.save(c[1], c[2], c[3]);
                     case 17: return k.write();
+                    case 18: return k.queued();
+                    case 19: return k.savedVersion(c[1]);
+                    case 20: return k.savedLength(c[1]);
                     default: return k.savedLetter(c[1], c[2]);
                 }
             } catch (RuntimeException e) {
@@ -168,40 +193,6 @@ public final class ModelTest {
                         : e.getClass() == IllegalArgumentException.class ? ILLEGAL
                         : e.getClass() == IllegalStateException.class ? STATELESS : -9999;
             }
-        }
-
-        String compareAll() {
-            for (int text = 0; text < 3; text++) {
-                MText t = m.texts[text];
-                List<MLetter> shown = t.shown();
-                if (k.length(text) != shown.size() || k.version(text) != t.version) {
-                    return "length or version of text " + text + ", due are " + shown.size() + ", " + t.version;
-                }
-                for (int i = 0; i < shown.size(); i++) {
-                    if (k.letter(text, i) != shown.get(i).sign || k.letterAnew(text, i) != shown.get(i).sign) {
-                        return "letter " + i + " of text " + text;
-                    }
-                }
-                for (int hand = 0; hand < 5; hand++) {
-                    if (k.place(hand, text) != t.place(hand)) {
-                        return "place of hand " + hand + " in text " + text;
-                    }
-                }
-                if (k.savedVersion(text) != t.savedVersion || k.savedLength(text) != t.saved.length()) {
-                    return "saved of text " + text;
-                }
-                for (int i = 0; i < t.saved.length(); i++) {
-                    if (k.savedLetter(text, i) != t.saved.charAt(i)) {
-                        return "saved letter " + i + " of text " + text;
-                    }
-                }
-            }
-            for (int i = 0; i < m.formats.size(); i++) {
-                if (k.state(i) != m.formats.get(i).state || k.spared(i) != m.formats.get(i).sparedNow()) {
-                    return "format " + i;
-                }
-            }
-            return k.queued() == m.queue.size() ? null : "queued";
         }
     }
 
@@ -414,7 +405,9 @@ public final class ModelTest {
                 case 3: return undo(c[1]);
                 case 4: return redo(c[1]);
                 case 5: return noHand(c[1]) || noText(c[2]) ? OUTSIDE : texts[c[2]].place(c[1]);
-                case 8: return noText(c[1]) ? OUTSIDE : signAt(texts[c[1]].word(), c[2]);
+                case 6: return noText(c[1]) ? OUTSIDE : texts[c[1]].word().length();
+                case 7: case 8: return noText(c[1]) ? OUTSIDE : signAt(texts[c[1]].word(), c[2]);
+                case 9: return noText(c[1]) ? OUTSIDE : texts[c[1]].version;
                 case 10: return ask(c[1], c[2], c[3]);
                 case 11: return come(c[1]);
                 case 12: return drop(c[1]);
@@ -423,6 +416,9 @@ public final class ModelTest {
                 case 15: return lock(c[1], c[2]);
                 case 16: return save(c[1], c[2], c[3]);
                 case 17: return write();
+                case 18: return queue.size();
+                case 19: return noText(c[1]) ? OUTSIDE : texts[c[1]].savedVersion;
+                case 20: return noText(c[1]) ? OUTSIDE : texts[c[1]].saved.length();
                 default: return noText(c[1]) ? OUTSIDE : signAt(texts[c[1]].saved, c[2]);
             }
         }

@@ -1,15 +1,5 @@
 /** Each promise by hand: ordinary calls, the edges that the document names, and wrong arguments. */
-public final class PromiseTest {
-    private static final int NONE = CursorKeep.NONE;
-    private static final int FAR = Integer.MAX_VALUE;
-    private static final int LOW = Integer.MIN_VALUE;
-    private static int wrong = 0;
-    private static int looked = 0;
-
-    private interface Call {
-        void run();
-    }
-
+public final class PromiseTest extends Checks {
     public static void main(String[] args) {
         newObject();
         typing();
@@ -24,10 +14,6 @@ public final class PromiseTest {
         lettersAnew();
         versions();
         askingRefused();
-        spacesFormat();
-        endsFormat();
-        capitalsFormat();
-        wrapFormat();
         coming();
         sparing();
         neighboursOfSpared();
@@ -38,16 +24,13 @@ public final class PromiseTest {
         writing();
         writingInOrder();
         savedTexts();
-        System.out.println("PromiseTest: " + looked + " looks, " + wrong + " wrong");
-        if (wrong != 0) {
-            System.exit(1);
-        }
+        end("PromiseTest");
     }
 
     // ---- Promise 1
 
     private static void newObject() {
-        CursorKeep k = new CursorKeep();
+        Keep k = new Keep();
         for (int text = 0; text < 3; text++) {
             due("new length", k.length(text), 0);
             due("new version", k.version(text), 0);
@@ -59,8 +42,8 @@ public final class PromiseTest {
         }
         due("new queued", k.queued(), 0);
         due("new write", k.write(), NONE);
-        outside(k, () -> k.state(0));
-        CursorKeep other = new CursorKeep();
+        outside(k, x -> x.state(0));
+        Keep other = new Keep();
         other.type(0, 0, 'a');
         due("objects share nothing", k.length(0), 0);
         due("NONE", CursorKeep.NONE, -1);
@@ -71,7 +54,7 @@ public final class PromiseTest {
     // ---- Promise 2
 
     private static void typing() {
-        CursorKeep k = new CursorKeep();
+        Keep k = new Keep();
         due("type at the end", k.type(0, 0, 'a'), 1);
         due("type at the end again", k.type(0, 0, 'c'), 2);
         due("another hand at the end stays there", k.place(1, 0), 2);
@@ -92,12 +75,12 @@ public final class PromiseTest {
     }
 
     private static void typingBesideGoneLetters() {
-        CursorKeep k = written("ab");
+        Keep k = Keep.written("ab");
         k.erase(0, 0);
         k.type(1, 0, 'c');
         k.undo(0);
         shows(k, 0, "abc");
-        CursorKeep m = written("axb");
+        Keep m = Keep.written("axb");
         m.moveTo(1, 0, 2);
         m.erase(1, 0);
         m.type(2, 0, 'e');
@@ -108,34 +91,34 @@ public final class PromiseTest {
     }
 
     private static void typingRefused() {
-        CursorKeep k = written("a");
+        Keep k = Keep.written("a");
         for (int bad : new int[] {-1, 5, FAR, LOW}) {
-            outside(k, () -> k.type(bad, 0, 'a'));
+            outside(k, x -> x.type(bad, 0, 'a'));
         }
         for (int bad : new int[] {-1, 3, FAR, LOW}) {
-            outside(k, () -> k.type(0, bad, 'a'));
+            outside(k, x -> x.type(0, bad, 'a'));
         }
-        outside(k, () -> k.type(5, 0, '!'));
-        outside(k, () -> k.type(0, 3, '!'));
+        outside(k, x -> x.type(5, 0, '!'));
+        outside(k, x -> x.type(0, 3, '!'));
         for (char c : new char[] {'`', '{', '@', '[', '.', ':', '!', 0, 1, '\n', 127, 228, 255, 256 + 'a', 0xFFFF}) {
-            illegal(k, () -> k.type(0, 0, c));
+            illegal(k, x -> x.type(0, 0, c));
         }
-        CursorKeep full = new CursorKeep();
+        Keep full = new Keep();
         for (int i = 0; i < 150; i++) {
             due("type number " + i, full.type(0, 0, 'a'), i + 1);
         }
-        stateless(full, () -> full.type(0, 0, 'a'));
-        illegal(full, () -> full.type(0, 0, '-'));
-        outside(full, () -> full.type(0, -1, '-'));
+        stateless(full, x -> x.type(0, 0, 'a'));
+        illegal(full, x -> x.type(0, 0, '-'));
+        outside(full, x -> x.type(0, -1, '-'));
         full.erase(0, 0);
-        stateless(full, () -> full.type(1, 0, 'a'));
+        stateless(full, x -> x.type(1, 0, 'a'));
         due("another text has room", full.type(1, 1, 'a'), 1);
     }
 
     // ---- Promise 3
 
     private static void erasing() {
-        CursorKeep k = written("abcd");
+        Keep k = Keep.written("abcd");
         k.moveTo(1, 0, 3);
         k.moveTo(2, 0, 2);
         due("erase in the middle", k.erase(1, 0), 2);
@@ -149,23 +132,23 @@ public final class PromiseTest {
         k.type(1, 0, 'x');
         shows(k, 0, "ax");
         k.moveTo(3, 0, 0);
-        stateless(k, () -> k.erase(3, 0));
-        stateless(k, () -> k.erase(3, 1));
+        stateless(k, x -> x.erase(3, 0));
+        stateless(k, x -> x.erase(3, 1));
         for (int bad : new int[] {-1, 5, FAR, LOW}) {
-            outside(k, () -> k.erase(bad, 0));
+            outside(k, x -> x.erase(bad, 0));
         }
         for (int bad : new int[] {-1, 3, FAR, LOW}) {
-            outside(k, () -> k.erase(0, bad));
+            outside(k, x -> x.erase(0, bad));
         }
         cursorsOfAllHandsMove();
-        CursorKeep gone = written("ab");
+        Keep gone = Keep.written("ab");
         gone.moveTo(1, 0, 1);
         gone.erase(1, 0);
-        stateless(gone, () -> gone.erase(1, 0));
+        stateless(gone, x -> x.erase(1, 0));
     }
 
     private static void cursorsOfAllHandsMove() {
-        CursorKeep k = written("abc");
+        Keep k = Keep.written("abc");
         for (int hand = 0; hand < 5; hand++) {
             k.moveTo(hand, 0, 1);
         }
@@ -183,7 +166,7 @@ public final class PromiseTest {
     // ---- Promise 4
 
     private static void moving() {
-        CursorKeep k = written("abcd");
+        Keep k = Keep.written("abcd");
         due("moveTo answers the place before", k.moveTo(0, 0, 1), 4);
         due("moveTo again", k.moveTo(0, 0, 4), 1);
         due("moveTo the same", k.moveTo(0, 0, 4), 4);
@@ -194,21 +177,21 @@ public final class PromiseTest {
         k.erase(1, 0);
         due("gone letters do not count", k.moveTo(2, 0, 3), 3);
         for (int bad : new int[] {-1, 4, FAR, LOW}) {
-            outside(k, () -> k.moveTo(0, 0, bad));
+            outside(k, x -> x.moveTo(0, 0, bad));
         }
-        outside(k, () -> k.moveTo(0, 1, 1));
+        outside(k, x -> x.moveTo(0, 1, 1));
         for (int bad : new int[] {-1, 5, FAR, LOW}) {
-            outside(k, () -> k.moveTo(bad, 0, 0));
+            outside(k, x -> x.moveTo(bad, 0, 0));
         }
         for (int bad : new int[] {-1, 3, FAR, LOW}) {
-            outside(k, () -> k.moveTo(0, bad, 0));
+            outside(k, x -> x.moveTo(0, bad, 0));
         }
     }
 
     // ---- Promise 5
 
     private static void undoing() {
-        CursorKeep k = written("abc");
+        Keep k = Keep.written("abc");
         k.moveTo(1, 0, 2);
         due("undo a typed letter", k.undo(0), 0);
         shows(k, 0, "ab");
@@ -219,12 +202,12 @@ public final class PromiseTest {
         k.undo(0);
         k.undo(0);
         shows(k, 0, "");
-        stateless(k, () -> k.undo(0));
-        stateless(k, () -> k.undo(1));
+        stateless(k, x -> x.undo(0));
+        stateless(k, x -> x.undo(1));
         for (int bad : new int[] {-1, 5, FAR, LOW}) {
-            outside(k, () -> k.undo(bad));
+            outside(k, x -> x.undo(bad));
         }
-        CursorKeep m = written("ab");
+        Keep m = Keep.written("ab");
         m.moveTo(0, 0, 0);
         m.undo(0);
         shows(m, 0, "a");
@@ -233,7 +216,7 @@ public final class PromiseTest {
     }
 
     private static void cursorsStayWhenLettersComeBack() {
-        CursorKeep k = written("abc");
+        Keep k = Keep.written("abc");
         k.moveTo(1, 0, 1);
         k.moveTo(0, 0, 2);
         k.erase(0, 0);
@@ -248,7 +231,7 @@ public final class PromiseTest {
     }
 
     private static void undoingAcrossHandsAndTexts() {
-        CursorKeep k = written("ab");
+        Keep k = Keep.written("ab");
         k.type(0, 2, 'z');
         k.type(1, 0, 'c');
         due("the latest act in whatever text", k.undo(0), 2);
@@ -262,8 +245,8 @@ public final class PromiseTest {
         shows(k, 0, "c");
         k.undo(2);
         shows(k, 0, "ac");
-        stateless(k, () -> k.undo(2));
-        CursorKeep m = written("ab");
+        stateless(k, x -> x.undo(2));
+        Keep m = Keep.written("ab");
         m.erase(1, 0);
         m.undo(0);
         m.redo(0);
@@ -278,14 +261,14 @@ public final class PromiseTest {
     // ---- Promise 6
 
     private static void redoing() {
-        CursorKeep k = written("ab");
+        Keep k = Keep.written("ab");
         k.type(0, 1, 'c');
-        stateless(k, () -> k.redo(0));
+        stateless(k, x -> x.redo(0));
         k.undo(0);
         k.undo(0);
         due("redo the last undone first", k.redo(0), 0);
         due("then the one undone ahead of it", k.redo(0), 1);
-        stateless(k, () -> k.redo(0));
+        stateless(k, x -> x.redo(0));
         shows(k, 0, "ab");
         k.erase(0, 0);
         k.undo(0);
@@ -297,76 +280,76 @@ public final class PromiseTest {
         shows(k, 0, "a");
         k.undo(0);
         k.type(0, 2, 'x');
-        stateless(k, () -> k.redo(0));
+        stateless(k, x -> x.redo(0));
         k.undo(0);
         k.erase(0, 0);
-        stateless(k, () -> k.redo(0));
+        stateless(k, x -> x.redo(0));
         k.undo(0);
         k.type(1, 0, 'y');
         due("another hand's typing leaves it", k.redo(0), 0);
-        stateless(k, () -> k.redo(1));
+        stateless(k, x -> x.redo(1));
         for (int bad : new int[] {-1, 5, FAR, LOW}) {
-            outside(k, () -> k.redo(bad));
+            outside(k, x -> x.redo(bad));
         }
         redoingAfterRefusals();
     }
 
     private static void redoingAfterRefusals() {
-        CursorKeep k = written("ab");
+        Keep k = Keep.written("ab");
         k.undo(0);
-        stateless(k, () -> k.erase(0, 1));
-        illegal(k, () -> k.type(0, 0, '!'));
+        stateless(k, x -> x.erase(0, 1));
+        illegal(k, x -> x.type(0, 0, '!'));
         due("a refused act leaves what is undone", k.redo(0), 0);
         shows(k, 0, "ab");
-        stateless(k, () -> k.redo(0));
+        stateless(k, x -> x.redo(0));
         k.undo(0);
         k.undo(0);
         k.type(0, 0, 'c');
         k.undo(0);
-        stateless(k, () -> k.undo(0));
+        stateless(k, x -> x.undo(0));
         due("only the new act is redone", k.redo(0), 0);
         shows(k, 0, "c");
-        stateless(k, () -> k.redo(0));
+        stateless(k, x -> x.redo(0));
     }
 
     // ---- Promises 7, 8 and 9
 
     private static void places() {
-        CursorKeep k = written("abc");
+        Keep k = Keep.written("abc");
         k.type(0, 1, 'x');
         k.moveTo(3, 0, 2);
         due("a cursor in each text", k.place(3, 0) * 10 + k.place(3, 1), 21);
         for (int bad : new int[] {-1, 5, FAR, LOW}) {
-            outside(k, () -> k.place(bad, 0));
+            outside(k, x -> x.place(bad, 0));
         }
         for (int bad : new int[] {-1, 3, FAR, LOW}) {
-            outside(k, () -> k.place(0, bad));
-            outside(k, () -> k.length(bad));
+            outside(k, x -> x.place(0, bad));
+            outside(k, x -> x.length(bad));
         }
     }
 
     private static void lettersShown() {
-        CursorKeep k = written("abc");
+        Keep k = Keep.written("abc");
         k.moveTo(0, 0, 2);
         k.erase(0, 0);
         due("length without gone letters", k.length(0), 2);
         due("first letter", k.letter(0, 0), 'a');
         due("gone letters are passed", k.letter(0, 1), 'c');
         for (int bad : new int[] {-1, 2, 3, FAR, LOW}) {
-            outside(k, () -> k.letter(0, bad));
-            outside(k, () -> k.letterAnew(0, bad));
+            outside(k, x -> x.letter(0, bad));
+            outside(k, x -> x.letterAnew(0, bad));
         }
-        outside(k, () -> k.letter(1, 0));
+        outside(k, x -> x.letter(1, 0));
         for (int bad : new int[] {-1, 3, FAR, LOW}) {
-            outside(k, () -> k.letter(bad, 0));
-            outside(k, () -> k.letterAnew(bad, 0));
+            outside(k, x -> x.letter(bad, 0));
+            outside(k, x -> x.letterAnew(bad, 0));
         }
     }
 
     // ---- Promise 10
 
     private static void lettersAnew() {
-        CursorKeep k = written("ab  cd ");
+        Keep k = Keep.written("ab  cd ");
         k.moveTo(1, 0, 2);
         k.type(1, 0, '/');
         k.ask(0, CursorKeep.CAPITALS, 0);
@@ -389,7 +372,7 @@ public final class PromiseTest {
     // ---- Promise 11
 
     private static void versions() {
-        CursorKeep k = written("a  b");
+        Keep k = Keep.written("a  b");
         due("one for each letter typed", k.version(0), 4);
         k.erase(0, 0);
         k.undo(0);
@@ -410,27 +393,27 @@ public final class PromiseTest {
         due("saves and locks make none", k.version(0), 9);
         due("nor in other texts", k.version(1), 0);
         for (int bad : new int[] {-1, 3, FAR, LOW}) {
-            outside(k, () -> k.version(bad));
+            outside(k, x -> x.version(bad));
         }
     }
 
     // ---- Promise 12
 
     private static void askingRefused() {
-        CursorKeep k = written("a  b");
+        Keep k = Keep.written("a  b");
         for (int bad : new int[] {-1, 3, FAR, LOW}) {
-            outside(k, () -> k.ask(bad, 9, 9));
+            outside(k, x -> x.ask(bad, 9, 9));
         }
         for (int bad : new int[] {-1, 4, FAR, LOW}) {
-            illegal(k, () -> k.ask(0, bad, 0));
+            illegal(k, x -> x.ask(0, bad, 0));
         }
         for (int bad : new int[] {-1, 0, 4, 41, FAR, LOW}) {
-            illegal(k, () -> k.ask(0, CursorKeep.WRAP, bad));
+            illegal(k, x -> x.ask(0, CursorKeep.WRAP, bad));
         }
         for (int kind = 0; kind < 3; kind++) {
             int other = kind;
             for (int bad : new int[] {-1, 1, 5, FAR, LOW}) {
-                illegal(k, () -> k.ask(0, other, bad));
+                illegal(k, x -> x.ask(0, other, bad));
             }
         }
         for (int i = 0; i < 60; i++) {
@@ -440,94 +423,31 @@ public final class PromiseTest {
                 k.come(i);
             }
         }
-        stateless(k, () -> k.ask(0, 0, 0));
-        illegal(k, () -> k.ask(0, 0, 1));
-        outside(k, () -> k.ask(3, 0, 0));
+        stateless(k, x -> x.ask(0, 0, 0));
+        illegal(k, x -> x.ask(0, 0, 1));
+        outside(k, x -> x.ask(3, 0, 0));
         due("the last one is there", k.state(59), CursorKeep.WAITING);
-        outside(k, () -> k.state(60));
-    }
-
-    private static void formats(String before, int kind, int number, int changes, String after) {
-        CursorKeep k = written(before);
-        if (!before.isEmpty()) {
-            k.moveTo(0, 0, 0);
-        }
-        int last = before.length();
-        int format = k.ask(0, kind, number);
-        CursorKeep other = written(before);
-        int dropped = other.ask(0, kind, number);
-        due("changes had of " + before, other.drop(dropped), changes);
-        k.moveTo(0, 0, last);
-        due("changes done of " + before, k.come(format), changes);
-        due("version of " + before, k.version(0), last + (changes > 0 ? 1 : 0));
-        shows(k, 0, after);
-    }
-
-    private static void spacesFormat() {
-        formats("", CursorKeep.SPACES, 0, 0, "");
-        formats("a b", CursorKeep.SPACES, 0, 0, "a b");
-        formats("a  b", CursorKeep.SPACES, 0, 1, "a b");
-        formats("   ab    c  ", CursorKeep.SPACES, 0, 6, " ab c ");
-        formats(" / / ", CursorKeep.SPACES, 0, 0, " / / ");
-        formats(" ".repeat(150), CursorKeep.SPACES, 0, 149, " ");
-    }
-
-    private static void endsFormat() {
-        formats("", CursorKeep.ENDS, 0, 0, "");
-        formats("   ", CursorKeep.ENDS, 0, 3, "");
-        formats("a  b  / c /  /d ", CursorKeep.ENDS, 0, 6, "a  b/ c//d");
-        formats(" a", CursorKeep.ENDS, 0, 0, " a");
-        formats("a /", CursorKeep.ENDS, 0, 1, "a/");
-        formats(" ".repeat(150), CursorKeep.ENDS, 0, 150, "");
-    }
-
-    private static void capitalsFormat() {
-        formats("", CursorKeep.CAPITALS, 0, 0, "");
-        formats("abc abc/z/A/ a/0a//q", CursorKeep.CAPITALS, 0, 3, "Abc abc/Z/A/ a/0a//Q");
-        formats("/a", CursorKeep.CAPITALS, 0, 1, "/A");
-        formats("a/".repeat(75), CursorKeep.CAPITALS, 0, 75, "A/".repeat(75));
-    }
-
-    private static void wrapFormat() {
-        formats("", CursorKeep.WRAP, 5, 0, "");
-        formats("abcde", CursorKeep.WRAP, 5, 0, "abcde");
-        formats("ab de", CursorKeep.WRAP, 5, 0, "ab de");
-        formats("abcde f", CursorKeep.WRAP, 5, 1, "abcde/f");
-        formats("abcdef g", CursorKeep.WRAP, 5, 0, "abcdef g");
-        formats("a bc/defghi jk", CursorKeep.WRAP, 5, 0, "a bc/defghi jk");
-        formats("a bcde fghijklm n", CursorKeep.WRAP, 5, 2, "a/bcde/fghijklm n");
-        formats("a bcdefghijkl m", CursorKeep.WRAP, 5, 1, "a/bcdefghijkl m");
-        formats("abcdef gh ijk/lm nopq", CursorKeep.WRAP, 5, 1, "abcdef gh ijk/lm/nopq");
-        formats("a b c d e f g h", CursorKeep.WRAP, 5, 2, "a b c/d e f/g h");
-        formats("      ", CursorKeep.WRAP, 5, 1, "     /");
-        formats(" abcdefgh", CursorKeep.WRAP, 5, 1, "/abcdefgh");
-        formats(" abcde fghij", CursorKeep.WRAP, 5, 2, "/abcde/fghij");
-        formats("ab cd/ef gh", CursorKeep.WRAP, 5, 0, "ab cd/ef gh");
-        formats("one two three/go on now", CursorKeep.WRAP, 7, 2, "one two/three/go on/now");
-        formats(" ".repeat(150), CursorKeep.WRAP, 5, 25, "     /".repeat(25));
-        String wide = "abcdefghi abcdefghi abcdefghi abcdefghi ";
-        formats(wide, CursorKeep.WRAP, 40, 0, wide);
-        formats(wide + "a", CursorKeep.WRAP, 40, 1, wide.substring(0, 39) + "/a");
+        outside(k, x -> x.state(60));
     }
 
     // ---- Promise 13
 
     private static void coming() {
-        CursorKeep k = written("a  b  c");
+        Keep k = Keep.written("a  b  c");
         k.ask(0, CursorKeep.SPACES, 0);
         k.ask(0, CursorKeep.SPACES, 0);
-        outside(k, () -> k.come(-1));
-        outside(k, () -> k.come(2));
-        outside(k, () -> k.come(FAR));
-        outside(k, () -> k.come(LOW));
+        outside(k, x -> x.come(-1));
+        outside(k, x -> x.come(2));
+        outside(k, x -> x.come(FAR));
+        outside(k, x -> x.come(LOW));
         due("formats may come in any order", k.come(1), 2);
-        stateless(k, () -> k.come(1));
+        stateless(k, x -> x.come(1));
         due("the other finds them gone", k.come(0), 0);
         shows(k, 0, "a b c");
         k.ask(0, CursorKeep.SPACES, 0);
         k.drop(2);
-        stateless(k, () -> k.come(2));
-        CursorKeep m = written("a b");
+        stateless(k, x -> x.come(2));
+        Keep m = Keep.written("a b");
         m.type(1, 0, ' ');
         m.ask(0, CursorKeep.ENDS, 0);
         m.come(0);
@@ -540,7 +460,7 @@ public final class PromiseTest {
     }
 
     private static void formatsDoNotMixTheirLetters() {
-        CursorKeep m = written("  a");
+        Keep m = Keep.written("  a");
         m.ask(0, CursorKeep.SPACES, 0);
         m.ask(0, CursorKeep.CAPITALS, 0);
         m.ask(0, CursorKeep.WRAP, 5);
@@ -555,7 +475,7 @@ public final class PromiseTest {
     }
 
     private static void formatsForgetOtherFormats() {
-        CursorKeep k = written("a  /b");
+        Keep k = Keep.written("a  /b");
         k.ask(0, CursorKeep.ENDS, 0);
         k.ask(0, CursorKeep.CAPITALS, 0);
         due("letters that go by the first", k.spared(0), 0);
@@ -567,7 +487,7 @@ public final class PromiseTest {
     }
 
     private static void formatsStayWhenHandsUndo() {
-        CursorKeep k = written("ab");
+        Keep k = Keep.written("ab");
         k.moveTo(1, 0, 0);
         k.ask(0, CursorKeep.CAPITALS, 0);
         due("a cursor at it spares no capital", k.come(0), 1);
@@ -580,7 +500,7 @@ public final class PromiseTest {
     // ---- Promise 16
 
     private static void sparing() {
-        CursorKeep k = written("a  b");
+        Keep k = Keep.written("a  b");
         k.ask(0, CursorKeep.SPACES, 0);
         due("nothing is spared at first", k.spared(0), 0);
         k.moveTo(4, 0, 2);
@@ -609,9 +529,9 @@ public final class PromiseTest {
         due("spared as it came, still", k.spared(0), 1);
         shows(k, 0, "a  b");
         for (int bad : new int[] {-1, 1, FAR, LOW}) {
-            outside(k, () -> k.spared(bad));
+            outside(k, x -> x.spared(bad));
         }
-        CursorKeep m = written("a bcdefg ");
+        Keep m = Keep.written("a bcdefg ");
         m.ask(0, CursorKeep.WRAP, 5);
         m.ask(0, CursorKeep.WRAP, 5);
         due("a cursor at it spares no line's end", m.moveTo(1, 0, 1) + m.come(0), 10);
@@ -621,7 +541,7 @@ public final class PromiseTest {
     }
 
     private static void neighboursOfSpared() {
-        CursorKeep k = written("a   b   c");
+        Keep k = Keep.written("a   b   c");
         k.ask(0, CursorKeep.SPACES, 0);
         k.moveTo(1, 0, 3);
         k.type(1, 0, 'x');
@@ -649,7 +569,7 @@ public final class PromiseTest {
     }
 
     private static void neighboursAtTheRims() {
-        CursorKeep k = written("a  ");
+        Keep k = Keep.written("a  ");
         k.ask(0, CursorKeep.ENDS, 0);
         k.type(1, 0, 'x');
         due("behind there was none", k.spared(0), 2);
@@ -661,7 +581,7 @@ public final class PromiseTest {
         k.ask(0, CursorKeep.CAPITALS, 0);
         due("a neighbour with another character is the same", k.come(1) * 10 + k.spared(0), 10);
         due("all go", k.come(0), 2);
-        CursorKeep m = written("ab");
+        Keep m = Keep.written("ab");
         m.ask(0, CursorKeep.CAPITALS, 0);
         m.moveTo(1, 0, 0);
         m.type(1, 0, ' ');
@@ -676,7 +596,7 @@ public final class PromiseTest {
     // ---- Promise 14
 
     private static void dropping() {
-        CursorKeep k = written("a  b  c");
+        Keep k = Keep.written("a  b  c");
         k.ask(0, CursorKeep.SPACES, 0);
         k.ask(0, CursorKeep.CAPITALS, 0);
         k.moveTo(1, 0, 2);
@@ -686,18 +606,18 @@ public final class PromiseTest {
         due("all still are", k.spared(0), 2);
         shows(k, 0, "a  b  c");
         due("no version comes of it", k.version(0), 7);
-        stateless(k, () -> k.drop(0));
+        stateless(k, x -> x.drop(0));
         k.come(1);
-        stateless(k, () -> k.drop(1));
+        stateless(k, x -> x.drop(1));
         for (int bad : new int[] {-1, 2, FAR, LOW}) {
-            outside(k, () -> k.drop(bad));
+            outside(k, x -> x.drop(bad));
         }
     }
 
     // ---- Promise 15
 
     private static void states() {
-        CursorKeep k = written("a");
+        Keep k = Keep.written("a");
         k.ask(0, 0, 0);
         k.ask(1, 1, 0);
         k.ask(2, 2, 0);
@@ -708,60 +628,60 @@ public final class PromiseTest {
         due("dropped", k.state(2), CursorKeep.DROPPED);
         due("still waiting", k.state(0), CursorKeep.WAITING);
         for (int bad : new int[] {-1, 3, FAR, LOW}) {
-            outside(k, () -> k.state(bad));
+            outside(k, x -> x.state(bad));
         }
     }
 
     // ---- Promise 17
 
     private static void locking() {
-        CursorKeep k = written("a");
+        Keep k = Keep.written("a");
         due("lock", k.lock(1, 0), true);
-        stateless(k, () -> k.lock(0, 0));
+        stateless(k, x -> x.lock(0, 0));
         due("another text", k.lock(0, 1), true);
         due("a hand may lock two", k.lock(1, 2), true);
         due("unlock", k.lock(1, 0), false);
         due("another hand then", k.lock(0, 0), true);
-        stateless(k, () -> k.lock(1, 0));
+        stateless(k, x -> x.lock(1, 0));
         due("others type on in a locked text", k.type(2, 0, 'b'), 2);
         for (int bad : new int[] {-1, 5, FAR, LOW}) {
-            outside(k, () -> k.lock(bad, 0));
+            outside(k, x -> x.lock(bad, 0));
         }
         for (int bad : new int[] {-1, 3, FAR, LOW}) {
-            outside(k, () -> k.lock(0, bad));
+            outside(k, x -> x.lock(0, bad));
         }
     }
 
     // ---- Promise 18
 
     private static void saving() {
-        CursorKeep k = written("a");
+        Keep k = Keep.written("a");
         k.ask(1, 0, 0);
         for (int bad : new int[] {-1, 5, FAR, LOW}) {
-            outside(k, () -> k.save(bad, 0, 0));
+            outside(k, x -> x.save(bad, 0, 0));
         }
         for (int bad : new int[] {-1, 3, FAR, LOW}) {
-            outside(k, () -> k.save(0, bad, 0));
+            outside(k, x -> x.save(0, bad, 0));
         }
         for (int bad : new int[] {-2, 1, FAR, LOW}) {
-            outside(k, () -> k.save(0, 0, bad));
+            outside(k, x -> x.save(0, 0, bad));
         }
-        illegal(k, () -> k.save(0, 0, 0));
+        illegal(k, x -> x.save(0, 0, 0));
         for (int i = 0; i < 60; i++) {
             due("number of a save", k.save(i % 5, 1, i % 2 == 0 ? NONE : 0), i);
         }
         due("all in the queue", k.queued(), 60);
-        stateless(k, () -> k.save(0, 0, NONE));
+        stateless(k, x -> x.save(0, 0, NONE));
         k.write();
-        stateless(k, () -> k.save(0, 0, NONE));
-        illegal(k, () -> k.save(0, 0, 0));
-        outside(k, () -> k.save(0, 0, 1));
+        stateless(k, x -> x.save(0, 0, NONE));
+        illegal(k, x -> x.save(0, 0, 0));
+        outside(k, x -> x.save(0, 0, 1));
     }
 
     // ---- Promises 19 and 20
 
     private static void writing() {
-        CursorKeep k = written("ab");
+        Keep k = Keep.written("ab");
         k.ask(0, 0, 0);
         k.ask(0, 0, 0);
         k.save(0, 0, 0);
@@ -785,7 +705,7 @@ public final class PromiseTest {
     }
 
     private static void writingInOrder() {
-        CursorKeep k = written("ab");
+        Keep k = Keep.written("ab");
         k.ask(0, 0, 0);
         k.save(0, 0, 0);
         k.save(0, 0, NONE);
@@ -806,7 +726,7 @@ public final class PromiseTest {
     // ---- Promises 21, 22 and 23
 
     private static void savedTexts() {
-        CursorKeep k = written("abc");
+        Keep k = Keep.written("abc");
         k.save(0, 0, NONE);
         due("a queued save has saved nothing", k.savedVersion(0), NONE);
         k.type(0, 0, 'd');
@@ -824,123 +744,26 @@ public final class PromiseTest {
         k.save(1, 0, NONE);
         k.write();
         due("a later save is kept instead", k.savedLength(0), 1);
-        outside(k, () -> k.savedLetter(0, 1));
-        outside(k, () -> k.savedLetter(0, -1));
-        outside(k, () -> k.savedLetter(0, FAR));
-        outside(k, () -> k.savedLetter(0, LOW));
-        outside(k, () -> k.savedLetter(1, 0));
+        outside(k, x -> x.savedLetter(0, 1));
+        outside(k, x -> x.savedLetter(0, -1));
+        outside(k, x -> x.savedLetter(0, FAR));
+        outside(k, x -> x.savedLetter(0, LOW));
+        outside(k, x -> x.savedLetter(1, 0));
         for (int bad : new int[] {-1, 3, FAR, LOW}) {
-            outside(k, () -> k.savedVersion(bad));
-            outside(k, () -> k.savedLength(bad));
-            outside(k, () -> k.savedLetter(bad, 0));
+            outside(k, x -> x.savedVersion(bad));
+            outside(k, x -> x.savedLength(bad));
+            outside(k, x -> x.savedLetter(bad, 0));
         }
         k.save(2, 2, NONE);
         k.write();
         due("an empty text is saved with its version", k.savedVersion(2), 0);
         due("and no letters", k.savedLength(2), 0);
-        outside(k, () -> k.savedLetter(2, 0));
-        CursorKeep full = written("ab".repeat(75));
+        outside(k, x -> x.savedLetter(2, 0));
+        Keep full = Keep.written("ab".repeat(75));
         full.save(0, 0, NONE);
         full.write();
         due("a full text is saved whole", full.savedLength(0), 150);
         due("up to its last letter", full.savedLetter(0, 149), 'b');
-        outside(full, () -> full.savedLetter(0, 150));
-    }
-
-    // ---- what the tests share
-
-    private static CursorKeep written(String letters) {
-        CursorKeep k = new CursorKeep();
-        for (char c : letters.toCharArray()) {
-            k.type(0, 0, c);
-        }
-        return k;
-    }
-
-    private static void shows(CursorKeep k, int text, String want) {
-        StringBuilder got = new StringBuilder();
-        StringBuilder anew = new StringBuilder();
-        for (int i = 0; i < k.length(text); i++) {
-            got.append(k.letter(text, i));
-            anew.append(k.letterAnew(text, i));
-        }
-        same("text", got.toString(), want);
-        same("text anew", anew.toString(), want);
-    }
-
-    private static String seen(CursorKeep k) {
-        StringBuilder s = new StringBuilder();
-        for (int text = 0; text < 3; text++) {
-            s.append(k.version(text)).append(':');
-            for (int i = 0; i < k.length(text); i++) {
-                s.append(k.letter(text, i));
-            }
-            for (int hand = 0; hand < 5; hand++) {
-                s.append(',').append(k.place(hand, text));
-            }
-            s.append(';').append(k.savedVersion(text)).append(':');
-            for (int i = 0; i < k.savedLength(text); i++) {
-                s.append(k.savedLetter(text, i));
-            }
-        }
-        s.append('q').append(k.queued());
-        for (int i = 0; i < formatsOf(k); i++) {
-            s.append(' ').append(k.state(i)).append('/').append(k.spared(i));
-        }
-        return s.toString();
-    }
-
-    private static int formatsOf(CursorKeep k) {
-        for (int i = 0; i < 1000; i++) {
-            try {
-                k.state(i);
-            } catch (IndexOutOfBoundsException e) {
-                return i;
-            }
-        }
-        return 1000;
-    }
-
-    private static void outside(CursorKeep k, Call call) {
-        refused(k, call, IndexOutOfBoundsException.class);
-    }
-
-    private static void illegal(CursorKeep k, Call call) {
-        refused(k, call, IllegalArgumentException.class);
-    }
-
-    private static void stateless(CursorKeep k, Call call) {
-        refused(k, call, IllegalStateException.class);
-    }
-
-    private static void refused(CursorKeep k, Call call, Class<?> want) {
-        String before = seen(k);
-        Object got = "nothing";
-        try {
-            call.run();
-        } catch (RuntimeException e) {
-            got = e.getClass();
-            same("the class throws it itself", e.getStackTrace()[0].getClassName(), "CursorKeep");
-        }
-        same("thrown", got, want);
-        same("all after a refusal", seen(k), before);
-    }
-
-    private static void due(String what, Object got, Object want) {
-        same(what, got instanceof Character c ? Integer.valueOf(c) : got,
-                want instanceof Character c ? Integer.valueOf(c) : want);
-    }
-
-    private static void same(String what, Object got, Object want) {
-        looked++;
-        if (!got.equals(want)) {
-            wrong++;
-            StackTraceElement[] at = new Throwable().getStackTrace();
-            StringBuilder lines = new StringBuilder();
-            for (int i = 1; i < Math.min(5, at.length); i++) {
-                lines.append(' ').append(at[i].getLineNumber());
-            }
-            System.out.println("PromiseTest: " + what + ": " + got + ", due is " + want + ", lines" + lines);
-        }
+        outside(full, x -> x.savedLetter(0, 150));
     }
 }
