@@ -594,6 +594,26 @@ public final class FormatEdgeTest extends Checks {
                 x -> x.moveTo(1, 0, 2) + x.erase(1, 0) + x.moveTo(1, 0, 4) + x.spared(0), 5 + 1 + 1 + 2);
         answers("nor is a space that was typed since", k,
                 x -> x.moveTo(1, 0, 3) + x.type(1, 0, ' ') + x.moveTo(1, 0, 6) + x.spared(0), 5 + 4 + 4 + 2);
+        neighboursAreNotToGoEvenIfSpared();
+    }
+
+    /** What spares the going of a letter makes it no neighbour of another that is to go. */
+    private static void neighboursAreNotToGoEvenIfSpared() {
+        Keep end = asked("abc   ef", SPACES, 0);
+        end.ask(0, WRAP, 5);
+        due("the third space becomes an end", end.come(1), 1);
+        due("so it is spared alone", end.spared(0), 1);
+        due("the second one goes", end.come(0), 1);
+        shows(end, 0, "abc /ef");
+        Keep back = asked("a    b", SPACES, 0);
+        back.moveTo(1, 0, 4);
+        back.erase(1, 0);
+        due("one went", back.spared(0), 2);
+        back.moveTo(1, 0, 2);
+        back.undo(1);
+        due("it came back, and a cursor stands at the one ahead", back.spared(0), 1);
+        due("the two behind go", back.come(0), 2);
+        shows(back, 0, "a  b");
     }
 
     private static void neighboursToGoByOtherFormats() {
